@@ -149,6 +149,14 @@ public final class PromisesTest {
         fault("dry4", 3);
         fault("drydry", 0);
         fault("dryx", 0);
+        fault("dryz", 0);
+        fault("adry", 0);
+        fault("ory", 0);
+        fault("dry`", 3);
+        fault("dry{", 3);
+        fault("dike 12/", 7);
+        fault("dike 12:", 7);
+        fault("tide 09 09;tide 9 9", NONE);
         fault("Dry", 0);
         fault("dRy", 0);
         fault("\tdry", 0);
@@ -559,6 +567,10 @@ public final class PromisesTest {
         due("not yet", x.missed(0), 1);
         x.go(1);
         due("not what is broken now", x.missed(0), 0);
+        x = told("seep 3 98 1 0;seep 2 98 1 0;seep 11 50 1 0;plain 1 1 0;plain 9 0 3");
+        due("too late for 3 while 11 is waited for", x.missed(1), 1);
+        due("what he heard first counts on", x.missed(3), 1);
+        due("none is heard in time", x.watch(0), NONE);
         x = told("seep 0 97 1 0;tired 9 0 9;tired 3 1 9");
         due("now is soon enough", x.missed(1), 0);
         x = told("tide 8 1;seep 9 99 1 1;tired 3 0 6;tired 3 0 5;plain 1 1 0");
@@ -608,6 +620,13 @@ public final class PromisesTest {
         due("the second", x.order(5, 12, 1), 3);
         due("there are not so many", x.order(5, 12, 2), NONE);
         due("there are not so many", x.order(5, 12, Integer.MAX_VALUE), NONE);
+        DikeWatch y = told("dike 24;seep 12 70 1 0;seep 2 86 1 0;seep 3 86 1 0;seep 1 86 1 0;seep 13 69 1 0");
+        due("2, 1, 3 or 3, 1, 2 .. ahead of 12 and 13", y.order(2, 31, NONE), 0);
+        int[] row = {1, 2, 3, 0, 4};
+        for (int i = 0; i < 5; i++) {
+            due("1 in 1, 2 in 3, 3 in 6, 0 in 18, 4 in 20: SEEP " + i, y.order(2, 31, i), row[i]);
+        }
+        due("all five broken", told("seep 0 99 9 0;seep 0 99 9 0;seep 0 99 9 0;seep 0 99 9 0;seep 0 99 9 0").order(0, 31, NONE), 5);
         due("an empty set", x.order(5, 0, NONE), 0);
         due("an empty set", x.order(5, 0, 0), NONE);
         due("five", x.order(5, 62, 4), 5);
@@ -681,6 +700,7 @@ public final class PromisesTest {
         due("ear 4: 5 or 6 hear all", x.guard(4, 0), 5);
         due("ear 9: all from 0", x.guard(9, 0), 0);
         due("ear 9", x.guard(9, 1), 15);
+        due("ear 1 from 1: at 2 alone", told("seep 2 9 0 0").guard(1, 0), 1);
         x.go(1);
         due("a broken one is heard", x.guard(2, 1), 14);
         x.fill(9);
