@@ -835,7 +835,9 @@ public final class DikeWatch {
 
         /** Those of the seeps that a child hears while they are not broken yet. */
         private int findHeardInTime(int child, int seeps) {
-            int last = lastBreakHour(seeps);
+            // behind a round to and fro he is where he was, and his ear is no better
+            int round = 2 * (told.yards - 1);
+            int last = Math.min(round, lastBreakHour(seeps));
             int found = 0;
             ahead.copyFrom(now);
             for (int t = 0; t < last && found != seeps; t++) {
