@@ -229,6 +229,17 @@ public final class ForetoldBoundariesTest {
         Due.due("missed(16): at 8 in 6 with an EAR of 1", x.missed(16), 0);
     }
 
+    @Says("that none of the set HEARS ahead of it (now, in 1 HOUR, ..; when it is broken it is too late).")
+    static void tooLateForOneInTimeForAnother() {
+        DikeWatch x = Due.told("seep 3 98 1 0;seep 2 98 1 0;seep 11 50 1 0;plain 1 1 0;plain 9 0 3");
+        Due.due("missed(1): at 2 in 1, at 3 in 2, at 11 in 10", x.missed(1), 1);
+        Due.due("missed(2): 11 now", x.missed(2), 3);
+        Due.due("missed(3)", x.missed(3), 1);
+        Due.due("watch(0)", x.watch(0), NONE);
+        x.fill(3);
+        Due.due("watch(1)", x.watch(1), 1);
+    }
+
     @Says("MISSED, by bits. UNKNOWN.")
     static void setsOfChildren() {
         DikeWatch x = Due.told("seep 5 99 1 0;seep 6 99 1 0;plain 5 0 0;plain 6 0 0;hoax 5 0 9;deaf 6 0 9;plain 0 0 9");
@@ -363,6 +374,51 @@ public final class ForetoldBoundariesTest {
         for (int i = 0; i < 5; i++) {
             Due.due("SEEP " + i, x.order(5, 31, i), 4 - i);
         }
+    }
+
+    @Says("ORDER: the row by which fewest are LOST; of several the first (by SEEPS).")
+    static void eachRowCanBeTheOnlyOne() {
+        int[] row = new int[5];
+        for (int code = 0; code < 3125; code++) {
+            int used = 0;
+            for (int i = 0, rest = code; i < 5; i++, rest /= 5) {
+                row[i] = rest % 5;
+                used |= 1 << row[i];
+            }
+            if (used == 31) {
+                theOnlyRow(row);
+            }
+        }
+    }
+
+    /** The i-th of the row breaks in the HOUR behind that of the i-th fill. */
+    private static void theOnlyRow(int[] row) {
+        int[] size = new int[5];
+        for (int i = 0; i < 5; i++) {
+            size[row[i]] = 98 - i;
+        }
+        StringBuilder text = new StringBuilder("dike 4");
+        for (int of : size) {
+            text.append(";seep 3 ").append(of).append(" 1 0");
+        }
+        DikeWatch x = Due.told(text.toString());
+        Due.due("order(3, 31, -1) of '" + text + "'", x.order(3, 31, NONE), 0);
+        Due.due("order(2, 31, -1) of '" + text + "': an HOUR later each", x.order(2, 31, NONE), 1);
+        for (int i = 0; i < 5; i++) {
+            Due.due("order(3, 31, " + i + ") of '" + text + "'", x.order(3, 31, i), row[i]);
+        }
+    }
+
+    @Says("they go a YARD in an HOUR, and FILL one in 1 HOUR more: a SEEP is LOST, if it is broken when it would be FILLED")
+    static void fromOneYardToTheNext() {
+        DikeWatch x = Due.told("seep 2 97 1 0;seep 9 89 1 0;seep 0 96 1 0;seep 9 88 1 0");
+        Due.due("0 in 2, 1 in 10: 11 is soon enough", x.order(1, 3, NONE), 0);
+        Due.due("2 in 2, 0 in 5 lost; 0 in 2, 2 in 5 lost", x.order(1, 5, NONE), 1);
+        Due.due("0 in 2, 1 in 10, 3 in 11", x.order(1, 11, NONE), 0);
+        Due.due("0 first", x.order(1, 11, 0), 0);
+        Due.due("2 in 2, 3 in 12 lost; 3 in 9, 2 lost", x.order(1, 12, NONE), 1);
+        Due.due("2 in 1, 3 in 11", x.order(0, 12, NONE), 0);
+        Due.due("2 in 1, 1 in 11 lost", x.order(0, 6, NONE), 1);
     }
 
     @Says("how many are LOST (i NONE), the i-th SEEP; NONE: there are not so many.")
@@ -503,6 +559,17 @@ public final class ForetoldBoundariesTest {
         Due.due("guard(9, 1)", x.guard(9, 1), 3);
         Due.due("guard(0, 0)", x.guard(0, 0), 0);
         Due.due("guard(0, 1)", x.guard(0, 1), 1);
+    }
+
+    @Says("GUARD: the YARD at which one with an EAR e (0 .. 9) HEARS most of all SEEPS that are not FILLED; of several the least.")
+    static void eachYardCanBeTheBest() {
+        for (int yard = 0; yard < 24; yard++) {
+            DikeWatch x = Due.told("dike 24;seep " + yard + " 1 0 0");
+            Due.due("guard(0, 0)", x.guard(0, 0), yard);
+            Due.due("guard(1, 0)", x.guard(1, 0), Math.max(0, yard - 1));
+            Due.due("guard(9, 0)", x.guard(9, 0), Math.max(0, yard - 9));
+            Due.due("guard(9, 1)", x.guard(9, 1), 1);
+        }
     }
 
     @Says("GUARD: the YARD at which one with an EAR e (0 .. 9) HEARS most of all SEEPS that are not FILLED; of several the least.")

@@ -283,8 +283,8 @@ public final class HoursBoundariesTest {
         x.fill(5);
         String then = Due.face(x);
         x.keep(1);
+        Due.due("fill(2)", x.fill(2), 9 + 9 + 8);
         x.go(97);
-        x.fill(2);
         Due.due("back(1)", x.back(1), 2);
         Due.same("back(1)", Due.face(x), then);
         x.go(5);

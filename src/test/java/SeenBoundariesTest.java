@@ -215,6 +215,7 @@ public final class SeenBoundariesTest {
         Due.due("next(5): 11 and 13 from 5", x.next(5), 5);
         Due.tell(x, "dike 4");
         Due.due("next(9): 4 and 0, everywhere", x.next(9), 0);
+        Due.due("next(3): 4 and 0, everywhere; there is no YARD 4", x.next(3), 0);
         Due.due("next(1): 2 and 2 from 0", x.next(1), 0);
         Due.due("next(0): 1 and 3, everywhere", x.next(0), 0);
     }

@@ -144,6 +144,7 @@ public final class TextBoundariesTest {
             Due.fault(line, NONE);
             Due.fault(" x" + line, 1);
             Due.fault(" " + line.substring(1), 1);
+            Due.fault(" z" + line.substring(1), 1);
             Due.fault(" " + line.replaceFirst("([a-z]+)", "$1s"), 1);
             Due.fault(" " + line.replaceFirst("[a-z]( |$)", "$1"), 1);
             Due.fault(line + " 0", line.length() + 1);

@@ -245,6 +245,16 @@ public final class ToldBoundariesTest {
     }
 
     @Says("He TELLS the YARD of the nearest SEEP that he hears (of several the least YARD), none, if he hears none; a HOAXER his own YARD.")
+    static void inWhicheverOrderTheyCame() {
+        DikeWatch x = Due.told("plain 5 0 3;seep 4 1 0 0;seep 6 1 0 0;seep 2 1 0 0;seep 8 1 0 0");
+        Due.due("child(0, 6), 4 or 6", x.child(0, 6), 4);
+        x.fill(4);
+        Due.due("child(0, 6), 6 is nearer than 2", x.child(0, 6), 6);
+        x.fill(6);
+        Due.due("child(0, 6), 2 or 8", x.child(0, 6), 2);
+    }
+
+    @Says("He TELLS the YARD of the nearest SEEP that he hears (of several the least YARD), none, if he hears none; a HOAXER his own YARD.")
     static void aSeepInYard0IsTold() {
         DikeWatch x = Due.told("plain 1 0 1;seep 0 1 0 0;plain 2 0 1");
         Due.due("child(0, 6)", x.child(0, 6), 0);
