@@ -486,10 +486,11 @@ public final class DikeWatch {
         /** The place of the fault; NONE: there is none, and the draft is as the lines say. */
         int readToFault() {
             end = 0;
-            for (lines = 1; lines <= MOST_LINES; lines++) {
+            for (int line = 1; line <= MOST_LINES; line++) {
                 if (!readLine()) {
                     return begin;
                 }
+                lines = line;
                 toNextToken();
                 if (sort == END) {
                     return NONE;

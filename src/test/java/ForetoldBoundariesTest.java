@@ -168,7 +168,7 @@ public final class ForetoldBoundariesTest {
         Due.due("watch(0)", x.watch(0), 0);
     }
 
-    @Says("will BREAK,")
+    @Says("will BREAK, and")
     static void whatDoesNotBreakIsNotMissed() {
         DikeWatch x = Due.told("tide 2 8;seep 0 99 0 0;seep 0 99 9 9;seep 0 16 1 8;seep 0 15 1 8");
         Due.due("missed(0): the third, in 999 HOURS", x.missed(0), 4);
@@ -595,5 +595,40 @@ public final class ForetoldBoundariesTest {
             Due.due("guard(0, " + wrong + ")", x.guard(0, wrong), OUTSIDE);
         }
         Due.due("guard(9, 2)", x.guard(9, 2), OUTSIDE);
+    }
+
+    // ---- what is asked for
+
+    @Says("LATER: SIZE of a SEEP (what 0), the YARD of a CHILD (1), SEEPS that he HEARS (2).")
+    static void aSeepOrAChildByWhat() {
+        DikeWatch x = Due.told("seep 3 10 2 0;seep 9 20 3 0;plain 1 2 1");
+        Due.due("later(1, 4, 0)", x.later(1, 4, 0), 32);
+        Due.due("later(0, 4, 1)", x.later(0, 4, 1), 9);
+        Due.due("later(0, 4, 2)", x.later(0, 4, 2), 2);
+        Due.due("later(0, 1, 2)", x.later(0, 1, 2), 1);
+        Due.due("later(1, 4, 1): there is one CHILD", x.later(1, 4, 1), UNKNOWN);
+        Due.due("later(1, 4, 2): there is one CHILD", x.later(1, 4, 2), UNKNOWN);
+    }
+
+    @Says("MEN begin at a YARD, with a set of SEEPS (5 at most):")
+    static void noneToFiveSeeps() {
+        DikeWatch x = Due.told("seep 0 1 0 0;seep 1 1 0 0;seep 2 1 0 0;seep 3 1 0 0;seep 4 1 0 0;seep 5 1 0 0");
+        for (int set = 0; set < 64; set++) {
+            int n = Integer.bitCount(set);
+            Due.due("order(0, " + set + ", " + (n - 1) + ")", x.order(0, set, n - 1),
+                n > 5 ? NOT : n == 0 ? 0 : 31 - Integer.numberOfLeadingZeros(set));
+            Due.due("order(0, " + set + ", " + n + ")", x.order(0, set, n), n > 5 ? NOT : NONE);
+        }
+    }
+
+    @Says("ORDER of MEN from a YARD:")
+    static void whereTheyBeginTellsTheRow() {
+        DikeWatch x = Due.told("seep 11 94 1 0;seep 0 94 1 0");
+        for (int yard = 0; yard < 12; yard++) {
+            // each breaks in 6 hours, so that men are in time from 4 yards off at most
+            boolean isInTime = yard <= 4 || yard >= 7;
+            Due.due("order(" + yard + ", 3, -1)", x.order(yard, 3, NONE), isInTime ? 1 : 2);
+            Due.due("order(" + yard + ", 3, 0)", x.order(yard, 3, 0), yard <= 4 ? 1 : 0);
+        }
     }
 }

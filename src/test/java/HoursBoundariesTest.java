@@ -42,7 +42,7 @@ public final class HoursBoundariesTest {
         Due.due("go(99)", x.go(99), 99);
     }
 
-    @Says("(of the day: HOURS gone, modulo 12)")
+    @Says("In an HOUR (of the day: HOURS gone, modulo 12)")
     static void behindTheHour11ComesTheHour0() {
         DikeWatch x = Due.told("tide 0 5;tide 11 7;seep 0 10 1 5;seep 0 10 1 6;seep 0 10 1 7");
         int[][] rows = {{1, 11, 10, 10}, {10, 11, 10, 10}, {1, 12, 11, 11}, {1, 13, 11, 11}, {10, 13, 11, 11}, {1, 14, 12, 12}, {1, 15, 12, 12}};

@@ -108,6 +108,7 @@ public final class LanguageTest {
         }
         due(!code.contains("->") && !code.contains("::") && !code.contains("@"), "rule 2: lambda, method reference");
         due(!Pattern.compile("\\bstatic\\s*\\{").matcher(code).find(), "rule 5: static block");
+        due(!Pattern.compile("\\bfor \\((?!int )").matcher(code).find(), "rule 9: a counter that other lines could change");
         Matcher imports = Pattern.compile("import ([^;]*);").matcher(code);
         while (imports.find()) {
             due(imports.group(1).equals("java.util.Arrays"), "rule 4: " + imports.group());

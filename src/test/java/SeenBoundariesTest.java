@@ -253,4 +253,25 @@ public final class SeenBoundariesTest {
             x.seen(0, 9, 0);
         }
     }
+
+    @Says("NEXT for an EAR e: the YARD at which it is surest to learn:")
+    static void alsoAYardAtWhichItCannotBe() {
+        DikeWatch x = new DikeWatch();
+        x.seen(0, 1, 0);
+        x.seen(6, 2, 0);
+        Due.due("where(): 2, 3, 9, 10, 11", x.where(), 4 + 8 + 512 + 1024 + 2048);
+        Due.due("next(2): 2 and 3 from 1", x.next(2), 1);
+        Due.due("next(3): 2 and 3 from 0", x.next(3), 0);
+        Due.due("next(0): 1 and 4 from 2", x.next(0), 2);
+    }
+
+    @Says("WHERE, by bits.")
+    static void eachYardHasItsBit() {
+        DikeWatch x = Due.told("dike 24");
+        for (int yard = 0; yard < 24; yard++) {
+            x.paid(yard, 9);
+            Due.due("where(), paid at " + yard, x.where(), 1 << yard);
+            x.forget();
+        }
+    }
 }

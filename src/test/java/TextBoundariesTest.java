@@ -188,7 +188,7 @@ public final class TextBoundariesTest {
         Due.fault("tide 24 0", 5);
     }
 
-    @Says("of a SIZE (1 .. 99), GROWTH (0 .. 9), LEVEL (0 .. 9).")
+    @Says(": at a YARD, of a SIZE (1 .. 99), GROWTH (0 .. 9), LEVEL (0 .. 9).")
     static void numbersOfASeep() {
         Due.fault("seep 0 1 0 0", NONE);
         Due.fault("seep 0 99 9 9", NONE);
@@ -233,7 +233,7 @@ public final class TextBoundariesTest {
         Due.due("count(2)", x.count(2), 0);
     }
 
-    @Says("SIZE S, GROWTH G, LEVEL L, a seventh cannot stand there (at its word);")
+    @Says("seep: SIZE S, GROWTH G, LEVEL L, a seventh cannot stand there (at its word);")
     static void aSeventhSeepInOneText() {
         String six = Due.lines("seep 0 1 0 0", 6);
         Due.fault(six, NONE);
@@ -242,7 +242,7 @@ public final class TextBoundariesTest {
         Due.fault(six + ";seep 99 0", 78);
     }
 
-    @Says("SIZE S, GROWTH G, LEVEL L, a seventh cannot stand there (at its word);")
+    @Says("seep: SIZE S, GROWTH G, LEVEL L, a seventh cannot stand there (at its word);")
     static void aSeventhSeepInTheNextText() {
         DikeWatch x = Due.told(Due.lines("seep 0 1 0 0", 6));
         Due.fault(x, "seep 0 1 0 0", 0);
@@ -584,5 +584,14 @@ public final class TextBoundariesTest {
         Due.tell(x, "tide 0 0");
         Due.due("back(0)", x.back(0), NOT);
         Due.due("back(1)", x.back(1), NOT);
+    }
+
+    @Says("(As written here, without points;")
+    static void aPointIsAFault() {
+        for (String line : new String[] {"dike 4", "tide 0 0", "seep 0 1 0 0", "plain 0 0 0", "dry", "school"}) {
+            Due.fault(line + ".", line.length());
+            Due.fault("dry;" + line + " .;dry", 4 + line.length() + 1);
+        }
+        Due.fault("tide 0.5 0", 6);
     }
 }

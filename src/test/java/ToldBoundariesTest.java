@@ -156,13 +156,13 @@ public final class ToldBoundariesTest {
         Due.due("child(0, 4)", x.child(0, 4), 0);
     }
 
-    @Says("his EAR reaches from his YARD to its")
+    @Says(", and his EAR reaches from his YARD to its")
     static void theEarReachesJustSoFar() {
         DikeWatch x = Due.told("dike 24;plain 12 0 9;seep 3 1 0 0;seep 2 1 0 0;seep 21 1 0 0;seep 22 1 0 0;seep 12 1 0 0");
         Due.due("as(0, 0)", x.as(0, 0), 1 | 4 | 16);
     }
 
-    @Says("his EAR reaches from his YARD to its")
+    @Says(", and his EAR reaches from his YARD to its")
     static void anEarOf0ReachesHisOwnYard() {
         DikeWatch x = Due.told("plain 5 0 0;seep 4 1 0 0;seep 5 1 0 0;seep 6 1 0 0;plain 0 0 0;plain 11 0 0;seep 11 1 0 0");
         Due.due("as(0, 0)", x.as(0, 0), 2);
@@ -344,5 +344,50 @@ public final class ToldBoundariesTest {
         x.fill(0);
         x.go(1);
         Due.due("count(5)", x.count(5), 2);
+    }
+
+    // ---- what of a child, and by bits
+
+    @Says(": of a KIND, 0 PLAIN, 1 TIRED, 2 HOAXER, 3 DEAF,")
+    static void kindsByTheirNumbers() {
+        DikeWatch x = Due.told("deaf 0 0 0;hoax 0 0 0;tired 0 0 0;plain 0 0 0;tired 0 0 0");
+        int[] kinds = {3, 2, 1, 0, 1};
+        for (int child = 0; child < 5; child++) {
+            Due.due("child(" + child + ", 0)", x.child(child, 0), kinds[child]);
+        }
+    }
+
+    @Says("Of a CHILD: KIND (what 0), YARD (1), PACE (2), EAR as it is now (3),")
+    static void onlyATiredOnesEarChanges() {
+        DikeWatch x = Due.told("plain 3 1 9;tired 4 2 8;hoax 5 3 7;deaf 6 0 6");
+        x.go(8);
+        int[][] rows = {{0, 11, 1, 9}, {1, 2, 2, 6}, {2, 7, 3, 7}, {3, 6, 0, 6}};
+        for (int child = 0; child < 4; child++) {
+            for (int what = 0; what < 4; what++) {
+                Due.due("child(" + child + ", " + what + ")", x.child(child, what), rows[child][what]);
+            }
+        }
+    }
+
+    @Says("A CHILD taken as a KIND (0 .. 4, as they are over one another;")
+    static void eachKindIsAChild() {
+        DikeWatch x = Due.told("seep 0 1 0 0;plain 0 0 0;tired 0 0 0;hoax 0 0 0;deaf 0 0 0");
+        for (int child = 0; child < 4; child++) {
+            Due.due("as(" + child + ", 0)", x.as(child, 0), child < 2 ? 1 : 0);
+            Due.due("as(" + child + ", " + (child + 1) + ")", x.as(child, child + 1), child < 2 ? 1 : 0);
+            Due.due("as(" + child + ", -1)", x.as(child, -1), OUTSIDE);
+            Due.due("as(" + child + ", 5)", x.as(child, 5), OUTSIDE);
+        }
+    }
+
+    @Says("): SEEPS that he HEARS now, by bits.")
+    static void eachSeepHasItsBit() {
+        DikeWatch x = Due.told("seep 0 1 0 0;seep 2 1 0 0;seep 4 1 0 0;seep 6 1 0 0;seep 8 1 0 0;seep 10 1 0 0;plain 0 2 0");
+        for (int seep = 0; seep < 6; seep++) {
+            Due.due("as(0, 1) in HOUR " + seep, x.as(0, 1), 1 << seep);
+            x.go(1);
+        }
+        Due.tell(x, "school;plain 5 0 9");
+        Due.due("as(0, 1)", x.as(0, 1), 63);
     }
 }
